@@ -2,7 +2,35 @@
 final class Check {
     static final int[] EXTREMES = {Integer.MIN_VALUE, Integer.MIN_VALUE + 1, -33, -1, 0, 1, 32, 33, Integer.MAX_VALUE};
 
+    // The numbers that emit and patch take, by operation.
+    private static final int MIN = Integer.MIN_VALUE;
+    private static final int MAX = Integer.MAX_VALUE;
+    private static final int[] LEAST = {MIN, 0, 0, 0, 0, 0, 0, 0, 1, 1, 0, 0, 0, MIN};
+    private static final int[] GREATEST = {MAX, 7, 7, 7, 7, 7, 7, 7, 7, 7, 31, 31, 31, MAX};
+
     private int wrong = 0;
+
+    /** A call of emit or patch with an operation and a number, and whether it is to be taken. */
+    interface Attempt {
+        void make(int op, int a, boolean taken);
+    }
+
+    /** Every operation with numbers inside, at the edges and outside, then what is no operation at all. */
+    static void attemptAll(Attempt attempt) {
+        for (int op = FpuStackTrans.LIT; op <= FpuStackTrans.HALT; op++) {
+            for (int a = -40; a <= 40; a++) {
+                attempt.make(op, a, a >= LEAST[op] && a <= GREATEST[op]);
+            }
+            for (int a : EXTREMES) {
+                attempt.make(op, a, a >= LEAST[op] && a <= GREATEST[op]);
+            }
+        }
+        int[] noOperations = {-1, -2, 14, 15, 16, 32, 256, Integer.MIN_VALUE, Integer.MAX_VALUE};
+        for (int op : noOperations) {
+            attempt.make(op, 0, false);
+            attempt.make(op, 1, false);
+        }
+    }
 
     void due(String call, long got, long want) {
         if (got != want) {

@@ -9,36 +9,6 @@ public final class Promise02EmitTest {
         check.due(call + ", then emit(HALT, 0)", x.emit(FpuStackTrans.HALT, 0), taken ? 2 : 1);
     }
 
-    private static void numbersOf(int op, int least, int greatest) {
-        for (int a = -40; a <= 40; a++) {
-            emitOnce(op, a, a >= least && a <= greatest);
-        }
-        for (int a : Check.EXTREMES) {
-            emitOnce(op, a, a >= least && a <= greatest);
-        }
-    }
-
-    private static void numbersOfEachOperation() {
-        numbersOf(FpuStackTrans.LIT, Integer.MIN_VALUE, Integer.MAX_VALUE);
-        for (int op = FpuStackTrans.DUP; op <= FpuStackTrans.MUL; op++) {
-            numbersOf(op, 0, 7);
-        }
-        numbersOf(FpuStackTrans.ADDP, 1, 7);
-        numbersOf(FpuStackTrans.SUBP, 1, 7);
-        numbersOf(FpuStackTrans.JZ, 0, 31);
-        numbersOf(FpuStackTrans.JNEG, 0, 31);
-        numbersOf(FpuStackTrans.JMP, 0, 31);
-        numbersOf(FpuStackTrans.HALT, Integer.MIN_VALUE, Integer.MAX_VALUE);
-    }
-
-    private static void noSuchOperation() {
-        int[] ops = {-1, -2, 14, 15, 16, 32, 256, Integer.MIN_VALUE, Integer.MAX_VALUE};
-        for (int op : ops) {
-            emitOnce(op, 0, false);
-            emitOnce(op, 1, false);
-        }
-    }
-
     private static void fullComesFirst() {
         FpuStackTrans x = new FpuStackTrans();
         for (int i = 0; i < 31; i++) {
@@ -82,8 +52,7 @@ public final class Promise02EmitTest {
     }
 
     public static void main(String[] args) {
-        numbersOfEachOperation();
-        noSuchOperation();
+        Check.attemptAll(Promise02EmitTest::emitOnce);
         fullComesFirst();
         stateStays();
         theNewInstructionIsTheOneRun();

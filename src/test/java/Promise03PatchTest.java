@@ -38,32 +38,6 @@ public final class Promise03PatchTest {
         }
     }
 
-    private static void numbersOf(int op, int least, int greatest) {
-        for (int a = -40; a <= 40; a++) {
-            patchOnce(op, a, a >= least && a <= greatest);
-        }
-        for (int a : Check.EXTREMES) {
-            patchOnce(op, a, a >= least && a <= greatest);
-        }
-    }
-
-    private static void numbersAreAsInEmit() {
-        numbersOf(FpuStackTrans.LIT, Integer.MIN_VALUE, Integer.MAX_VALUE);
-        for (int op = FpuStackTrans.DUP; op <= FpuStackTrans.MUL; op++) {
-            numbersOf(op, 0, 7);
-        }
-        numbersOf(FpuStackTrans.ADDP, 1, 7);
-        numbersOf(FpuStackTrans.SUBP, 1, 7);
-        numbersOf(FpuStackTrans.JZ, 0, 31);
-        numbersOf(FpuStackTrans.JNEG, 0, 31);
-        numbersOf(FpuStackTrans.JMP, 0, 31);
-        numbersOf(FpuStackTrans.HALT, Integer.MIN_VALUE, Integer.MAX_VALUE);
-        int[] noOperations = {-1, 14, Integer.MIN_VALUE, Integer.MAX_VALUE};
-        for (int op : noOperations) {
-            patchOnce(op, 1, false);
-        }
-    }
-
     private static void aFullProgramCanBePatched() {
         FpuStackTrans x = new FpuStackTrans();
         for (int i = 0; i < 32; i++) {
@@ -123,7 +97,7 @@ public final class Promise03PatchTest {
     public static void main(String[] args) {
         onlyThatInstructionChanges();
         noSuchInstruction();
-        numbersAreAsInEmit();
+        Check.attemptAll(Promise03PatchTest::patchOnce);
         aFullProgramCanBePatched();
         stateStays();
         eachOperationAfterEachOther();
