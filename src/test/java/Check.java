@@ -1,36 +1,10 @@
 /** What the tests share: comparing answers, looking at a whole state, and ending with the exit code that is due. */
 final class Check {
-    static final int[] EXTREMES = {Integer.MIN_VALUE, Integer.MIN_VALUE + 1, -33, -1, 0, 1, 32, 33, Integer.MAX_VALUE};
-
-    // The numbers that emit and patch take, by operation.
-    private static final int MIN = Integer.MIN_VALUE;
-    private static final int MAX = Integer.MAX_VALUE;
-    private static final int[] LEAST = {MIN, 0, 0, 0, 0, 0, 0, 0, 1, 1, 0, 0, 0, MIN};
-    private static final int[] GREATEST = {MAX, 7, 7, 7, 7, 7, 7, 7, 7, 7, 31, 31, 31, MAX};
+    static final int MIN = Integer.MIN_VALUE;
+    static final int MAX = Integer.MAX_VALUE;
+    static final int[] EXTREMES = {MIN, MIN + 1, -33, -1, 0, 1, 32, 33, MAX};
 
     private int wrong = 0;
-
-    /** A call of emit or patch with an operation and a number, and whether it is to be taken. */
-    interface Attempt {
-        void make(int op, int a, boolean taken);
-    }
-
-    /** Every operation with numbers inside, at the edges and outside, then what is no operation at all. */
-    static void attemptAll(Attempt attempt) {
-        for (int op = FpuStackTrans.LIT; op <= FpuStackTrans.HALT; op++) {
-            for (int a = -40; a <= 40; a++) {
-                attempt.make(op, a, a >= LEAST[op] && a <= GREATEST[op]);
-            }
-            for (int a : EXTREMES) {
-                attempt.make(op, a, a >= LEAST[op] && a <= GREATEST[op]);
-            }
-        }
-        int[] noOperations = {-1, -2, 14, 15, 16, 32, 256, Integer.MIN_VALUE, Integer.MAX_VALUE};
-        for (int op : noOperations) {
-            attempt.make(op, 0, false);
-            attempt.make(op, 1, false);
-        }
-    }
 
     void due(String call, long got, long want) {
         if (got != want) {
@@ -48,6 +22,10 @@ final class Check {
         due(when + ": run(0)", x.run(0), status);
         due(when + ": place()", x.place(), place);
         due(when + ": executed()", x.executed(), executed);
+        stack(when, x, stack);
+    }
+
+    void stack(String when, FpuStackTrans x, int... stack) {
         due(when + ": depth()", x.depth(), stack.length);
         for (int i = 0; i < 8; i++) {
             due(when + ": st(" + i + ")", x.st(i), i < stack.length ? stack[i] : 0);
@@ -60,6 +38,39 @@ final class Check {
         }
     }
 
+    /** All that can be seen of the two objects, but for their programs. */
+    void same(String when, FpuStackTrans x, FpuStackTrans twin) {
+        state(when, x, twin.run(0), twin.place(), twin.executed(), stackOf(twin));
+        memory(when, x, memoryOf(twin));
+    }
+
+    /** The programs too, as far as they are run: both objects are started again and looked at after each step. */
+    void sameFromTheStart(String when, FpuStackTrans x, FpuStackTrans twin, int steps) {
+        x.start();
+        twin.start();
+        for (int step = 0; step <= steps; step++) {
+            same(when + ", started again, step " + step, x, twin);
+            x.run(1);
+            twin.run(1);
+        }
+    }
+
+    static int[] stackOf(FpuStackTrans x) {
+        int[] stack = new int[x.depth()];
+        for (int i = 0; i < stack.length; i++) {
+            stack[i] = x.st(i);
+        }
+        return stack;
+    }
+
+    static int[] memoryOf(FpuStackTrans x) {
+        int[] cells = new int[8];
+        for (int i = 0; i < cells.length; i++) {
+            cells[i] = x.memory(i);
+        }
+        return cells;
+    }
+
     /** A new object with a program, given as operation, number, operation, number and so on. */
     static FpuStackTrans program(int... code) {
         FpuStackTrans x = new FpuStackTrans();
@@ -67,6 +78,34 @@ final class Check {
             x.emit(code[k], code[k + 1]);
         }
         return x;
+    }
+
+    /** A new object with a program of that many instructions, each a jump to the next one. */
+    static FpuStackTrans jumps(int length) {
+        FpuStackTrans x = new FpuStackTrans();
+        for (int i = 0; i < length; i++) {
+            x.emit(FpuStackTrans.JMP, (i + 1) % 32);
+        }
+        return x;
+    }
+
+    /** A new object that has pushed 1, 2, 3 and so on up to the depth, and is at the end of its program. */
+    static FpuStackTrans pushed(int depth) {
+        FpuStackTrans x = new FpuStackTrans();
+        for (int value = 1; value <= depth; value++) {
+            x.emit(FpuStackTrans.LIT, value);
+        }
+        x.run(depth);
+        return x;
+    }
+
+    /** The stack of pushed(depth), from the top down. */
+    static int[] pushedStack(int depth) {
+        int[] stack = new int[depth];
+        for (int i = 0; i < depth; i++) {
+            stack[i] = depth - i;
+        }
+        return stack;
     }
 
     void end() {

@@ -2,6 +2,7 @@
 public final class Promise04PokeTest {
     private static final Check check = new Check();
 
+    /** "Sets a memory cell": that one alone, to any int. */
     private static void eachCellAlone() {
         for (int cell = 0; cell < 8; cell++) {
             for (int value : Check.EXTREMES) {
@@ -22,12 +23,21 @@ public final class Promise04PokeTest {
         check.memory("poked back to 0", x);
     }
 
+    /** "cell outside 0..7: refused, answers false. Else true." */
+    private static void theCellsThatThereAre() {
+        FpuStackTrans x = new FpuStackTrans();
+        for (int cell = -40; cell <= 40; cell++) {
+            check.due("poke(" + cell + ", 77)", x.poke(cell, 77), cell >= 0 && cell <= 7);
+        }
+        check.memory("poked all", x, 77, 77, 77, 77, 77, 77, 77, 77);
+    }
+
     private static void noSuchCell() {
         FpuStackTrans x = new FpuStackTrans();
         for (int cell = 0; cell < 8; cell++) {
             x.poke(cell, cell + 1);
         }
-        int[] cells = {-1, -8, 8, 9, 16, Integer.MIN_VALUE, Integer.MAX_VALUE};
+        int[] cells = {-1, -8, 8, 9, 15, 16, 32, 256, Check.MIN, Check.MAX};
         for (int cell : cells) {
             check.due("poke(" + cell + ", 77)", x.poke(cell, 77), false);
         }
@@ -63,6 +73,7 @@ public final class Promise04PokeTest {
     public static void main(String[] args) {
         eachCellAlone();
         theLastPokeStands();
+        theCellsThatThereAre();
         noSuchCell();
         inEveryStatus();
         theProgramSeesIt();

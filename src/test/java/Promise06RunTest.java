@@ -8,17 +8,80 @@ public final class Promise06RunTest {
         check.state("run(" + n + ")", x, FpuStackTrans.RUNNING, tries % 3, tries);
     }
 
-    private static void everyClamping() {
+    /** "n is clamped into 0..200": what is inside stays as it is */
+    private static void inside() {
         for (int n = 0; n <= 200; n++) {
             clamping(n, n);
         }
-        int[] below = {-1, -2, -200, Integer.MIN_VALUE};
+    }
+
+    /** "n is clamped into 0..200": what is too small becomes 0 */
+    private static void tooSmall() {
+        int[] below = {-1, -2, -200, -201, Check.MIN + 1, Check.MIN};
         for (int n : below) {
             clamping(n, 0);
         }
-        int[] above = {201, 202, 256, 1000, Integer.MAX_VALUE};
+    }
+
+    /** "n is clamped into 0..200": what is too large becomes 200 */
+    private static void tooLarge() {
+        int[] above = {201, 202, 255, 256, 257, 400, 1000, 65536, Check.MAX};
         for (int n : above) {
             clamping(n, 200);
+        }
+    }
+
+    /** A program that comes to its end at that try, after 49 rounds of four instructions: the 198th or a later one. */
+    private static FpuStackTrans endsAtTry(int tries) {
+        int padding = tries - 198;
+        FpuStackTrans x = Check.jumps(padding);
+        x.emit(FpuStackTrans.LIT, -49);
+        x.emit(FpuStackTrans.LIT, 1);
+        x.emit(FpuStackTrans.ADDP, 1);
+        x.emit(FpuStackTrans.DUP, 0);
+        x.emit(FpuStackTrans.JNEG, padding + 1);
+        return x;
+    }
+
+    /** "n times": a halt at the 200th try belongs to the longest run, one at the 201st doesn't */
+    private static void theLastTryHalts() {
+        int[] longRuns = {200, 201, Check.MAX};
+        for (int n : longRuns) {
+            for (int tries = 199; tries <= 202; tries++) {
+                FpuStackTrans x = endsAtTry(tries);
+                x.emit(FpuStackTrans.HALT, 0);
+                String when = "run(" + n + ") with a halt at try " + tries;
+                check.due(when, x.run(n), tries <= 200 ? FpuStackTrans.HALTED : FpuStackTrans.RUNNING);
+                check.due(when + ": executed()", x.executed(), tries <= 200 ? tries : 200);
+                check.due(when + ", then run(2)", x.run(2), FpuStackTrans.HALTED);
+                check.state(when + ", then run(2)", x, FpuStackTrans.HALTED, tries - 198 + 5, tries, 0);
+            }
+        }
+    }
+
+    /** "n times": a fault is a try too, though it isn't counted as executed */
+    private static void theLastTryFaults() {
+        for (int tries = 199; tries <= 202; tries++) {
+            FpuStackTrans x = endsAtTry(tries);
+            String when = "run(200) with a fault at try " + tries;
+            check.due(when, x.run(200), tries <= 200 ? FpuStackTrans.FAULT : FpuStackTrans.RUNNING);
+            check.due(when + ": executed()", x.executed(), tries <= 200 ? tries - 1 : 200);
+            check.due(when + ", then run(2)", x.run(2), FpuStackTrans.FAULT);
+            check.state(when + ", then run(2)", x, FpuStackTrans.FAULT, tries - 198 + 5, tries - 1, 0);
+        }
+    }
+
+    /** "as long as the status is RUNNING": else no n tries anything, though there is an instruction that could be. */
+    private static void aStatusThatIsNotRunning(int op, int status) {
+        int[] lengths = {Check.MIN, -1, 0, 1, 2, 199, 200, 201, Check.MAX};
+        for (int n : lengths) {
+            FpuStackTrans x = Check.program(FpuStackTrans.LIT, 4, op, 3, FpuStackTrans.STORE, 2);
+            check.due("run(2) to status " + status, x.run(2), status);
+            int executed = x.executed();
+            x.patch(1, FpuStackTrans.STORE, 2);
+            check.due("run(" + n + ") in status " + status, x.run(n), status);
+            check.state("run(" + n + ") in status " + status, x, status, 1, executed, 4);
+            check.memory("run(" + n + ") in status " + status, x);
         }
     }
 
@@ -44,33 +107,6 @@ public final class Promise06RunTest {
         check.memory("fault", x, 1);
     }
 
-    private static void theEndOfTheProgramFaultsOnlyWhenTried() {
-        FpuStackTrans x = Check.program(FpuStackTrans.LIT, 1);
-        check.due("run(1) to the end", x.run(1), FpuStackTrans.RUNNING);
-        check.state("at the end", x, FpuStackTrans.RUNNING, 1, 1, 1);
-        check.due("run(1) past the end", x.run(1), FpuStackTrans.FAULT);
-        check.state("past the end", x, FpuStackTrans.FAULT, 1, 1, 1);
-    }
-
-    private static void theEndOfAFullProgram() {
-        FpuStackTrans x = new FpuStackTrans();
-        for (int i = 0; i < 32; i++) {
-            x.emit(i % 2 == 0 ? FpuStackTrans.LIT : FpuStackTrans.STORE, i % 8);
-        }
-        check.due("run(32) of 32", x.run(32), FpuStackTrans.RUNNING);
-        check.state("after 32 of 32", x, FpuStackTrans.RUNNING, 32, 32);
-        check.due("run(1) at place 32", x.run(1), FpuStackTrans.FAULT);
-        check.state("fault at place 32", x, FpuStackTrans.FAULT, 32, 32);
-    }
-
-    private static void aJumpPastTheProgram() {
-        FpuStackTrans x = Check.program(FpuStackTrans.JMP, 31);
-        check.due("run(1) of the jump", x.run(1), FpuStackTrans.RUNNING);
-        check.state("jumped to 31", x, FpuStackTrans.RUNNING, 31, 1);
-        check.due("run(1) at 31", x.run(1), FpuStackTrans.FAULT);
-        check.state("fault at 31", x, FpuStackTrans.FAULT, 31, 1);
-    }
-
     /** Counts 5 down to 0 and adds up what it meets. */
     private static FpuStackTrans countdown() {
         return Check.program(FpuStackTrans.LIT, 0, FpuStackTrans.LIT, 5,
@@ -88,12 +124,15 @@ public final class Promise06RunTest {
     }
 
     public static void main(String[] args) {
-        everyClamping();
+        inside();
+        tooSmall();
+        tooLarge();
+        theLastTryHalts();
+        theLastTryFaults();
+        aStatusThatIsNotRunning(FpuStackTrans.HALT, FpuStackTrans.HALTED);
+        aStatusThatIsNotRunning(FpuStackTrans.ADD, FpuStackTrans.FAULT);
         aHaltStopsTheRun();
         aFaultStopsTheRun();
-        theEndOfTheProgramFaultsOnlyWhenTried();
-        theEndOfAFullProgram();
-        aJumpPastTheProgram();
         twoShortRunsAreOneLong();
         check.end();
     }

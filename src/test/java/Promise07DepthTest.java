@@ -30,19 +30,41 @@ public final class Promise07DepthTest {
         }
     }
 
-    private static void aFaultKeepsIt() {
+    /** A push beyond 8 leaves it at 8, however often it is tried. */
+    private static void aPushTooMany() {
         FpuStackTrans x = Check.program(FpuStackTrans.LIT, 1, FpuStackTrans.JMP, 0);
+        x.run(15);
+        check.due("depth() after 8 pushes", x.depth(), 8);
         x.run(200);
         check.due("depth() after a push too many", x.depth(), 8);
-        FpuStackTrans y = Check.program(FpuStackTrans.STORE, 0);
-        y.run(1);
-        check.due("depth() after a pop too many", y.depth(), 0);
+        x.run(200);
+        check.due("depth() after a run in FAULT", x.depth(), 8);
+    }
+
+    /** A pop beyond 0 leaves it at 0. */
+    private static void aPopTooMany() {
+        FpuStackTrans x = Check.program(FpuStackTrans.LIT, 1, FpuStackTrans.STORE, 0, FpuStackTrans.STORE, 0);
+        x.run(2);
+        check.due("depth() after the last pop", x.depth(), 0);
+        x.run(1);
+        check.due("depth() after a pop too many", x.depth(), 0);
+    }
+
+    private static void startMakesItZero() {
+        for (int depth = 0; depth <= 8; depth++) {
+            FpuStackTrans x = Check.pushed(depth);
+            check.due("depth() before start", x.depth(), depth);
+            x.start();
+            check.due("depth() after start at " + depth, x.depth(), 0);
+        }
     }
 
     public static void main(String[] args) {
         upToEightAndDownAgain();
         eachOperation();
-        aFaultKeepsIt();
+        aPushTooMany();
+        aPopTooMany();
+        startMakesItZero();
         check.end();
     }
 }

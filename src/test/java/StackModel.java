@@ -1,4 +1,4 @@
-/** The machine of the document's 'Terms', run instruction by instruction on a plain stack: what the class is held against. */
+/** The machine of the document's 'Terms', run instruction by instruction on a plain stack. */
 final class StackModel {
     final int[] ops = new int[32];
     final int[] numbers = new int[32];

@@ -1,5 +1,7 @@
-/** Promise 6 with the document's 'Terms': what each operation does, and when trying it makes a fault. */
-public final class Promise06OperationsTest {
+import java.util.Arrays;
+
+/** 'Terms': what each operation does to stack, memory, pc and status when it is executed. */
+public final class TermsOperationsTest {
     private static final Check check = new Check();
     private static final int[] CELLS = {100, 101, 102, 103, 104, 105, 106, 107};
 
@@ -69,15 +71,44 @@ public final class Promise06OperationsTest {
         executed("SUBP 7", after(FpuStackTrans.SUBP, 7, 9, 2, 3, 4, 5, 6, 7, 8), 9, 7, 6, 5, 4, 3, 2, 1);
     }
 
-    private static void arithmeticWraps() {
-        int max = Integer.MAX_VALUE;
-        int min = Integer.MIN_VALUE;
-        executed("ADD wraps", after(FpuStackTrans.ADD, 1, 1, max), 3, min, 1);
-        executed("SUB wraps", after(FpuStackTrans.SUB, 1, 1, min), 3, max, 1);
-        executed("MUL wraps", after(FpuStackTrans.MUL, 1, 65537, 65537), 3, 131073, 65537);
-        executed("MUL of the least wraps", after(FpuStackTrans.MUL, 1, -1, min), 3, min, -1);
-        executed("ADDP wraps", after(FpuStackTrans.ADDP, 1, min, -1), 3, max);
-        executed("SUBP wraps", after(FpuStackTrans.SUBP, 1, max, -1), 3, min);
+    /** What an operation that names st(a) makes of a stack; ADDP and SUBP pop the top after it. */
+    private static int[] result(int op, int a, int... stack) {
+        int top = stack[0];
+        int[] after = stack.clone();
+        switch (op) {
+            case FpuStackTrans.XCH:
+                after[0] = stack[a];
+                after[a] = top;
+                break;
+            case FpuStackTrans.ADD:
+                after[0] = top + stack[a];
+                break;
+            case FpuStackTrans.SUB:
+                after[0] = top - stack[a];
+                break;
+            case FpuStackTrans.MUL:
+                after[0] = top * stack[a];
+                break;
+            default:
+                after[a] = op == FpuStackTrans.ADDP ? stack[a] + top : stack[a] - top;
+                return Arrays.copyOfRange(after, 1, after.length);
+        }
+        return after;
+    }
+
+    /** From st(0), or st(1) for ADDP and SUBP, down to the lowest value, on stacks of one value up to 8. */
+    private static void everyValueAtEveryDepth() {
+        for (int op = FpuStackTrans.XCH; op <= FpuStackTrans.SUBP; op++) {
+            for (int depth = 1; depth <= 8; depth++) {
+                for (int a = op >= FpuStackTrans.ADDP ? 1 : 0; a < depth; a++) {
+                    FpuStackTrans x = Check.pushed(depth);
+                    x.emit(op, a);
+                    x.run(1);
+                    String when = "operation " + op + " with " + a + " at depth " + depth;
+                    executed(when, x, depth + 1, result(op, a, Check.pushedStack(depth)));
+                }
+            }
+        }
     }
 
     private static void jump(int op, int value, boolean taken) {
@@ -87,6 +118,7 @@ public final class Promise06OperationsTest {
         }
     }
 
+    /** "if it was 0", "if it was negative": the values beside 0, and the farthest ones. */
     private static void jumps() {
         for (int value : Check.EXTREMES) {
             jump(FpuStackTrans.JZ, value, value == 0);
@@ -98,6 +130,14 @@ public final class Promise06OperationsTest {
         }
     }
 
+    private static void jumpsThatPopTheOnlyValue() {
+        check.state("JZ, taken", after(FpuStackTrans.JZ, 9, 0), FpuStackTrans.RUNNING, 9, 2);
+        check.state("JZ, not taken", after(FpuStackTrans.JZ, 9, 1), FpuStackTrans.RUNNING, 2, 2);
+        check.state("JNEG, taken", after(FpuStackTrans.JNEG, 9, -1), FpuStackTrans.RUNNING, 9, 2);
+        check.state("JNEG, not taken", after(FpuStackTrans.JNEG, 9, 0), FpuStackTrans.RUNNING, 2, 2);
+    }
+
+    /** "the machine halts; pc stays" */
     private static void halts() {
         check.state("HALT", after(FpuStackTrans.HALT, 5, 1), FpuStackTrans.HALTED, 1, 2, 1);
         check.state("HALT on an empty stack", after(FpuStackTrans.HALT, -1), FpuStackTrans.HALTED, 0, 1);
@@ -105,50 +145,47 @@ public final class Promise06OperationsTest {
             FpuStackTrans.HALTED, 8, 9, 8, 7, 6, 5, 4, 3, 2, 1);
     }
 
-    private static int leastDepth(int op, int a) {
-        switch (op) {
-            case FpuStackTrans.STORE:
-            case FpuStackTrans.JZ:
-            case FpuStackTrans.JNEG:
-                return 1;
-            case FpuStackTrans.LIT:
-            case FpuStackTrans.LOAD:
-            case FpuStackTrans.JMP:
-            case FpuStackTrans.HALT:
-                return 0;
-            default:
-                return a + 1;
+    /** Fills the program so that the operation is instruction 31, with 1 at st(2), 2 at st(1) and the top above. */
+    private static void atTheLastPlace(int op, int top, int placeAfter) {
+        FpuStackTrans x = new FpuStackTrans();
+        for (int i = 0; i < 28; i++) {
+            x.emit(FpuStackTrans.JMP, i + 1);
         }
+        x.emit(FpuStackTrans.LIT, 1);
+        x.emit(FpuStackTrans.LIT, 2);
+        x.emit(FpuStackTrans.LIT, top);
+        x.emit(op, 1);
+        x.run(31);
+        check.due("place() before operation " + op, x.place(), 31);
+        int status = op == FpuStackTrans.HALT ? FpuStackTrans.HALTED : FpuStackTrans.RUNNING;
+        check.due("operation " + op + " as instruction 31", x.run(1), status);
+        check.due("place() after operation " + op + " as instruction 31", x.place(), placeAfter);
+        check.due("executed() after operation " + op + " as instruction 31", x.executed(), 32);
     }
 
-    private static void faultOrNot(int op, int a, int depth) {
-        int[] pushed = new int[depth];
-        int[] stack = new int[depth];
-        for (int i = 0; i < depth; i++) {
-            pushed[i] = 10 + i;
-            stack[depth - 1 - i] = 10 + i;
+    /** "After all but HALT and the jumps pc becomes pc + 1": 32 too, though no instruction can have that number. */
+    private static void theLastPlace() {
+        for (int op = FpuStackTrans.LIT; op <= FpuStackTrans.SUBP; op++) {
+            atTheLastPlace(op, 3, 32);
         }
-        FpuStackTrans x = after(op, a, pushed);
-        boolean fault = depth < leastDepth(op, a) || op <= FpuStackTrans.LOAD && depth == 8;
-        String when = "operation " + op + " with " + a + " at depth " + depth;
-        if (fault) {
-            check.state(when, x, FpuStackTrans.FAULT, depth, depth, stack);
-            check.memory(when, x, CELLS);
-        } else {
-            check.due(when + ": executed()", x.executed(), depth + 1);
-            check.due(when + ": fault", x.run(0) == FpuStackTrans.FAULT, false);
-        }
+        atTheLastPlace(FpuStackTrans.JZ, 0, 1);
+        atTheLastPlace(FpuStackTrans.JZ, 1, 32);
+        atTheLastPlace(FpuStackTrans.JNEG, -1, 1);
+        atTheLastPlace(FpuStackTrans.JNEG, 0, 32);
+        atTheLastPlace(FpuStackTrans.JMP, 0, 1);
+        atTheLastPlace(FpuStackTrans.HALT, 0, 31);
     }
 
-    private static void faultsAtEveryDepth() {
-        for (int op = FpuStackTrans.LIT; op <= FpuStackTrans.HALT; op++) {
-            boolean pair = op == FpuStackTrans.ADDP || op == FpuStackTrans.SUBP;
-            for (int a = pair ? 1 : 0; a < 8; a++) {
-                for (int depth = 0; depth <= 8; depth++) {
-                    faultOrNot(op, a, depth);
-                }
-            }
-        }
+    /** "pc becomes a": also if a is the jump's own number, the first or the last one. */
+    private static void loops() {
+        FpuStackTrans own = Check.program(FpuStackTrans.JMP, 1, FpuStackTrans.JMP, 1);
+        own.run(200);
+        check.state("a jump to itself", own, FpuStackTrans.RUNNING, 1, 200);
+        FpuStackTrans around = Check.jumps(32);
+        around.run(31);
+        check.state("31 jumps", around, FpuStackTrans.RUNNING, 31, 31);
+        around.run(1);
+        check.state("a jump from 31 to 0", around, FpuStackTrans.RUNNING, 0, 32);
     }
 
     public static void main(String[] args) {
@@ -156,10 +193,12 @@ public final class Promise06OperationsTest {
         stores();
         exchanges();
         arithmetic();
-        arithmeticWraps();
+        everyValueAtEveryDepth();
         jumps();
+        jumpsThatPopTheOnlyValue();
         halts();
-        faultsAtEveryDepth();
+        theLastPlace();
+        loops();
         check.end();
     }
 }
