@@ -54,20 +54,25 @@ public final class UseTest {
         }
     }
 
-    /** What the 513th call and later ones answer is free, but no call may throw or fail to end. */
+    /** Mostly a number that is taken somewhere or nearly so, and sometimes one from the ends of int. */
+    private static int wild(int k) {
+        return k % 5 == 0 ? Check.EXTREMES[k / 5 % Check.EXTREMES.length] : k % 41 - 4;
+    }
+
+    /** What the 513th call and later ones answer is free, but none may throw or fail to end, whatever it is given. */
     private static void laterCallsEnd() {
         FpuStackTrans x = after511Calls();
-        for (int calls = 0; calls < 5000; calls++) {
-            x.emit(FpuStackTrans.LIT, calls);
-            x.patch(calls % 40, calls % 16, calls % 9);
-            x.poke(calls % 10, calls);
-            x.run(calls);
-            x.st(calls % 10);
-            x.memory(calls % 10);
+        for (int k = 0; k < 20000; k++) {
+            x.emit(wild(k), wild(k / 3));
+            x.patch(wild(k), wild(k / 5), wild(k / 7));
+            x.poke(wild(k / 2), k);
+            x.run(wild(k));
+            x.st(wild(k));
+            x.memory(wild(k));
             x.depth();
             x.place();
             x.executed();
-            if (calls % 7 == 0) {
+            if (k % 7 == 0) {
                 x.start();
             }
         }
